@@ -16,6 +16,8 @@ public final class FactorBranches {
     private static final int HIGHEST_CODE = 126;
     /** The step of a version that begins a word; every other step is a letter. */
     private static final int WORD_BEGINS = -1;
+    /** Stands in the place of a version for what has been made of none. */
+    private static final int NO_VERSION = -1;
     /** Stands for the empty sequence where a class is asked for. */
     private static final int EMPTY_SEQUENCE = -1;
 
@@ -254,8 +256,7 @@ public final class FactorBranches {
         if (!isEndCount(least) || length < 0 || length > MOST_LETTERS) {
             return BAD_VALUE;
         }
-        showPresent();
-        classes.refresh();
+        showClasses();
         return classes.factorsWith(least, length);
     }
 
@@ -263,8 +264,7 @@ public final class FactorBranches {
         if (!isEndCount(least)) {
             return BAD_VALUE;
         }
-        showPresent();
-        classes.refresh();
+        showClasses();
         beginnings.refresh();
         int left = k;
         for (int rank = 0; rank < text.length() && left >= 0; rank++) {
@@ -291,8 +291,7 @@ public final class FactorBranches {
     // ---- classes
 
     public int group(int index, int what) {
-        showPresent();
-        classes.refresh();
+        showClasses();
         if (!classes.has(index)) {
             return NO_SUCH;
         }
@@ -317,8 +316,7 @@ public final class FactorBranches {
     }
 
     public int spell(int index) {
-        showPresent();
-        classes.refresh();
+        showClasses();
         if (!classes.has(index)) {
             return NO_SUCH;
         }
@@ -326,8 +324,7 @@ public final class FactorBranches {
     }
 
     public int step(int index, int letter) {
-        showPresent();
-        classes.refresh();
+        showClasses();
         if (index != EMPTY_SEQUENCE && !classes.has(index)) {
             return NO_SUCH;
         }
@@ -346,8 +343,7 @@ public final class FactorBranches {
         if (least < 1 || least > MOST_WORDS) {
             return BAD_VALUE;
         }
-        showPresent();
-        classes.refresh();
+        showClasses();
         int found = classes.longestShared(words, least);
         return found == NONE ? NONE : write(classes.longestStart(found), classes.longestIn(found));
     }
@@ -359,8 +355,7 @@ public final class FactorBranches {
         if (words == 0) {
             return BAD_VALUE;
         }
-        showPresent();
-        classes.refresh();
+        showClasses();
         int found = classes.shortestOnlyIn(words);
         return found == NONE ? NONE : write(classes.shortestStart(found), classes.shortestIn(found));
     }
@@ -372,22 +367,21 @@ public final class FactorBranches {
         showPresent();
         for (int length = 1; length <= MOST_LETTERS; length++) {
             pattern.takeFirstSequence(length);
-            boolean more = true;
+            boolean untried = true;
             // There are at most 60 factors of one length, so one of 61 sequences is none.
-            for (int tried = 0; tried <= MOST_LETTERS && more; tried++) {
+            for (int tried = 0; tried <= MOST_LETTERS && untried; tried++) {
                 if (text.endNumber(pattern, 0) == NONE) {
                     slate.write(pattern, 0, length);
                     return length;
                 }
-                more = pattern.turnToNext(letters);
+                untried = pattern.turnToNext(letters);
             }
         }
         return TOO_MANY;
     }
 
     public int minimal() {
-        showPresent();
-        classes.refresh();
+        showClasses();
         return classes.minimalAbsent();
     }
 
@@ -397,17 +391,25 @@ public final class FactorBranches {
         if (what < 0 || what > 6) {
             return BAD_VALUE;
         }
-        showPresent();
-        classes.refresh();
         switch (what) {
             case 0:
                 return present;
             case 1:
                 return history.size();
             case 2:
-                return text.wordCount();
+                return history.wordsIn(present);
             case 3:
-                return text.length();
+                return history.lettersIn(present);
+            default:
+                return countOfClasses(what);
+        }
+    }
+
+    // ---- what several calls use
+
+    private int countOfClasses(int what) {
+        showClasses();
+        switch (what) {
             case 4:
                 return classes.size();
             case 5:
@@ -416,8 +418,6 @@ public final class FactorBranches {
                 return classes.longestRepeat();
         }
     }
-
-    // ---- what several calls use
 
     private static boolean isLetter(int letter) {
         return letter >= 0 && letter < ALPHABET;
@@ -435,6 +435,11 @@ public final class FactorBranches {
         text.takeVersion(history, present);
     }
 
+    private void showClasses() {
+        showPresent();
+        classes.refresh();
+    }
+
     private boolean readPattern() {
         if (slate.faultAsPattern() != NONE) {
             return false;
@@ -448,7 +453,7 @@ public final class FactorBranches {
         if (end == NONE) {
             return NONE;
         }
-        classes.refresh();
+        showClasses();
         return classes.classAt(end, pattern.length());
     }
 
@@ -622,11 +627,10 @@ public final class FactorBranches {
      * position counts over all words: positions are then in the order in which ends are counted.
      */
     private static final class Text {
-        private static final int NO_VERSION = -1;
-
         private final int[] letters = new int[MOST_LETTERS];
         private final int[] words = new int[MOST_LETTERS];
         private final int[] places = new int[MOST_LETTERS];
+        private final int[] rests = new int[MOST_LETTERS];
         private final int[] starts = new int[MOST_WORDS];
         private int wordCount = 0;
         private int length = 0;
@@ -675,7 +679,7 @@ public final class FactorBranches {
 
         /** How many letters there are from a position to the end of its word. */
         int lettersFrom(int position) {
-            return has(position) ? wordEnd(wordAt(position)) - position : 0;
+            return has(position) ? rests[position] : 0;
         }
 
         /** A version never changes, so one that has been taken need not be taken again. */
@@ -698,6 +702,7 @@ public final class FactorBranches {
             }
             for (int i = 0; i < length; i++) {
                 places[i] = i - wordStart(words[i]);
+                rests[i] = wordEnd(words[i]) - i;
             }
         }
 
@@ -723,6 +728,7 @@ public final class FactorBranches {
             for (int i = 0; i < length; i++) {
                 words[i] = 0;
                 places[i] = i;
+                rests[i] = length - i;
             }
         }
 
@@ -871,7 +877,10 @@ public final class FactorBranches {
 
     /** The classes of the factors of a text, in their order. */
     private static final class Classes {
-        /** A class's longest factor begins a word, or can be lengthened in two ways: so there are fewer than two for each letter. */
+        /**
+         * The longest factor of a class begins a word, which gives one class for each letter at most,
+         * or stands behind two letters, which joins two classes to one: fewer than that again.
+         */
         private static final int MOST_CLASSES = 2 * MOST_LETTERS;
 
         private final Text text;
@@ -887,7 +896,7 @@ public final class FactorBranches {
         private final int[] stepSets = new int[MOST_CLASSES];
         private int letterSet = 0;
         private int size = 0;
-        private int version = Text.NO_VERSION;
+        private int version = NO_VERSION;
 
         Classes(Text text) {
             this.text = text;
@@ -1011,15 +1020,13 @@ public final class FactorBranches {
         }
 
         private void addClass(int end, int least, int most) {
-            if (size >= MOST_CLASSES) {
+            if (size >= MOST_CLASSES || most < 1 || most > MOST_LETTERS) {
                 return;
             }
             int words = 0;
             int steps = 0;
-            int count = 0;
             for (int other = 0; other < text.length(); other++) {
                 if (sweep.lengthAt(other) >= most) {
-                    count++;
                     words |= 1 << text.wordAt(other);
                     steps |= text.lettersFrom(other) > 1 ? 1 << text.letterAt(other + 1) : 0;
                 }
@@ -1027,7 +1034,7 @@ public final class FactorBranches {
             firstEnds[size] = end;
             longest[size] = most;
             shortest[size] = least;
-            ends[size] = count;
+            ends[size] = endCounts[most];
             links[size] = least > 1 ? classAt(end, least - 1) : NONE;
             wordSets[size] = words;
             stepSets[size] = steps;
@@ -1141,7 +1148,7 @@ public final class FactorBranches {
         private final int[] starts = new int[MOST_LETTERS];
         private final int[] shared = new int[MOST_LETTERS];
         private int size = 0;
-        private int version = Text.NO_VERSION;
+        private int version = NO_VERSION;
 
         Beginnings(Text text) {
             this.text = text;
