@@ -24,8 +24,8 @@ public final class FactorBranches {
     private final History history = new History();
     private final Pad slate = new Pad();
     private final Text text = new Text();
-    private final Classes classes = new Classes(text);
-    private final Beginnings beginnings = new Beginnings(text);
+    private final Classes classes = new Classes();
+    private final Beginnings beginnings = new Beginnings();
     private final Text pattern = new Text();
     private final Text oneText = new Text();
     private final Text otherText = new Text();
@@ -234,7 +234,7 @@ public final class FactorBranches {
             return BAD_TEXT;
         }
         showPresent();
-        int parts = 0;
+        int parts = 1;
         int begun = 0;
         for (int at = 0; at < pattern.length(); at++) {
             int matched = sweep.advance(pattern, at, text, text.length());
@@ -242,7 +242,7 @@ public final class FactorBranches {
                 return NONE;
             }
             // Each part goes as far as it can: every part of a factor is a factor, so no other cut is better.
-            if (parts == 0 || matched < at - begun + 1) {
+            if (matched < at - begun + 1) {
                 parts++;
                 begun = at;
             }
@@ -265,12 +265,12 @@ public final class FactorBranches {
             return BAD_VALUE;
         }
         showClasses();
-        beginnings.refresh();
+        beginnings.refresh(text);
         int left = k;
         for (int rank = 0; rank < text.length() && left >= 0; rank++) {
             int start = beginnings.startAt(rank);
             int fresh = beginnings.sharedAt(rank) + 1;
-            int often = classes.lengthWith(least, start, fresh);
+            int often = classes.lengthWith(text, least, start, fresh);
             if (left < often - fresh + 1) {
                 return write(start, fresh + left);
             }
@@ -284,8 +284,8 @@ public final class FactorBranches {
             return BAD_TEXT;
         }
         showPresent();
-        beginnings.refresh();
-        return beginnings.factorsBefore(pattern);
+        beginnings.refresh(text);
+        return beginnings.factorsBefore(text, pattern);
     }
 
     // ---- classes
@@ -331,7 +331,7 @@ public final class FactorBranches {
         if (!isLetter(letter)) {
             return BAD_VALUE;
         }
-        return classes.classAfter(index, letter);
+        return classes.classAfter(text, index, letter);
     }
 
     // ---- several words
@@ -344,7 +344,7 @@ public final class FactorBranches {
             return BAD_VALUE;
         }
         showClasses();
-        int found = classes.longestShared(words, least);
+        int found = classes.longestShared(text, words, least);
         return found == NONE ? NONE : write(classes.longestStart(found), classes.longestIn(found));
     }
 
@@ -356,7 +356,7 @@ public final class FactorBranches {
             return BAD_VALUE;
         }
         showClasses();
-        int found = classes.shortestOnlyIn(words);
+        int found = classes.shortestOnlyIn(text, words);
         return found == NONE ? NONE : write(classes.shortestStart(found), classes.shortestIn(found));
     }
 
@@ -391,6 +391,9 @@ public final class FactorBranches {
         if (what < 0 || what > 6) {
             return BAD_VALUE;
         }
+        if (what > 3) {
+            showClasses();
+        }
         switch (what) {
             case 0:
                 return present;
@@ -400,16 +403,6 @@ public final class FactorBranches {
                 return history.wordsIn(present);
             case 3:
                 return history.lettersIn(present);
-            default:
-                return countOfClasses(what);
-        }
-    }
-
-    // ---- what several calls use
-
-    private int countOfClasses(int what) {
-        showClasses();
-        switch (what) {
             case 4:
                 return classes.size();
             case 5:
@@ -418,6 +411,8 @@ public final class FactorBranches {
                 return classes.longestRepeat();
         }
     }
+
+    // ---- what several calls use
 
     private static boolean isLetter(int letter) {
         return letter >= 0 && letter < ALPHABET;
@@ -437,7 +432,7 @@ public final class FactorBranches {
 
     private void showClasses() {
         showPresent();
-        classes.refresh();
+        classes.refresh(text);
     }
 
     private boolean readPattern() {
@@ -453,7 +448,7 @@ public final class FactorBranches {
         if (end == NONE) {
             return NONE;
         }
-        showClasses();
+        classes.refresh(text);
         return classes.classAt(end, pattern.length());
     }
 
@@ -863,19 +858,22 @@ public final class FactorBranches {
             boolean goesOn = here.placeAt(at) > 0;
             int best = 0;
             // From behind, for each length builds on the one that the letter before it had.
-            for (int i = Math.min(bound, there.length()) - 1; i >= 0; i--) {
+            // The rows are read as they are: this loop is the dearest of all.
+            for (int i = Math.min(Math.min(bound, there.length), MOST_LETTERS) - 1; i >= 0; i--) {
                 int length = 0;
-                if (there.letterAt(i) == letter) {
-                    length = goesOn && there.placeAt(i) > 0 ? lengthAt(i - 1) + 1 : 1;
+                if (there.letters[i] == letter) {
+                    length = goesOn && i > 0 && there.places[i] > 0 ? lengths[i - 1] + 1 : 1;
                 }
                 lengths[i] = length;
-                best = Math.max(best, length);
+                if (length > best) {
+                    best = length;
+                }
             }
             return best;
         }
     }
 
-    /** The classes of the factors of a text, in their order. */
+    /** The classes of the factors of the text of which they were last made, in their order. */
     private static final class Classes {
         /**
          * The longest factor of a class begins a word, which gives one class for each letter at most,
@@ -883,9 +881,8 @@ public final class FactorBranches {
          */
         private static final int MOST_CLASSES = 2 * MOST_LETTERS;
 
-        private final Text text;
         private final Sweep sweep = new Sweep();
-        private final int[] endCounts = new int[MOST_LETTERS + 2];
+        private final int[] endCounts = new int[MOST_LETTERS + 1];
         private final int[][] classOf = new int[MOST_LETTERS][MOST_LETTERS + 1];
         private final int[] firstEnds = new int[MOST_CLASSES];
         private final int[] longest = new int[MOST_CLASSES];
@@ -897,10 +894,6 @@ public final class FactorBranches {
         private int letterSet = 0;
         private int size = 0;
         private int version = NO_VERSION;
-
-        Classes(Text text) {
-            this.text = text;
-        }
 
         int size() {
             return size;
@@ -953,7 +946,7 @@ public final class FactorBranches {
             return known ? classOf[end][length] : NONE;
         }
 
-        void refresh() {
+        void refresh(Text text) {
             if (version == text.version()) {
                 return;
             }
@@ -963,28 +956,29 @@ public final class FactorBranches {
             for (int end = 0; end < text.length(); end++) {
                 letterSet |= 1 << text.letterAt(end);
                 sweep.advance(text, end, text, text.length());
-                countEnds();
-                addFactorsAt(end, takeKnown(end));
+                int most = Math.min(text.placeAt(end) + 1, MOST_LETTERS);
+                countEnds(text.length(), most);
+                addFactorsAt(text, end, takeKnown(end) + 1, most);
             }
         }
 
-        /** Counts, for each length, the ends of the factor of that length at which the sweep stands. */
-        private void countEnds() {
-            for (int length = 0; length < endCounts.length; length++) {
+        /** Counts, for each length up to the most, the ends of the factor of that length at which the sweep stands. */
+        private void countEnds(int positions, int most) {
+            for (int length = 0; length <= most && length < endCounts.length; length++) {
                 endCounts[length] = 0;
             }
-            for (int end = 0; end < text.length(); end++) {
+            for (int end = 0; end < positions; end++) {
                 int length = sweep.lengthAt(end);
                 if (length >= 0 && length < endCounts.length) {
                     endCounts[length]++;
                 }
             }
-            for (int length = endCounts.length - 2; length >= 0; length--) {
+            for (int length = Math.min(most, endCounts.length - 1) - 1; length >= 0; length--) {
                 endCounts[length] += endCounts[length + 1];
             }
         }
 
-        /** Takes the classes of those factors that have an earlier end from there, and returns the greatest length of such a one. */
+        /** Takes the classes of those factors that have an earlier end from there; returns the greatest length of one. */
         private int takeKnown(int end) {
             int best = 0;
             int bestEnd = 0;
@@ -1001,13 +995,13 @@ public final class FactorBranches {
         }
 
         /** Factors of one end and neighbouring lengths belong together as long as they have equally many ends. */
-        private void addFactorsAt(int end, int known) {
-            int most = Math.min(text.placeAt(end) + 1, MOST_LETTERS);
-            int least = known + 1;
-            for (int length = Math.max(1, known + 1); length <= most; length++) {
+        private void addFactorsAt(Text text, int end, int first, int most) {
+            int least = first;
+            for (int length = Math.max(0, first); length <= most && length < endCounts.length; length++) {
                 putClass(end, length, size);
-                if (length == most || endCounts[length + 1] != endCounts[length]) {
-                    addClass(end, least, length);
+                boolean last = length == most || length + 1 == endCounts.length;
+                if (last || endCounts[length + 1] != endCounts[length]) {
+                    addClass(text, end, least, length);
                     least = length + 1;
                 }
             }
@@ -1019,7 +1013,7 @@ public final class FactorBranches {
             }
         }
 
-        private void addClass(int end, int least, int most) {
+        private void addClass(Text text, int end, int least, int most) {
             if (size >= MOST_CLASSES || most < 1 || most > MOST_LETTERS) {
                 return;
             }
@@ -1041,7 +1035,7 @@ public final class FactorBranches {
             size++;
         }
 
-        int classAfter(int index, int letter) {
+        int classAfter(Text text, int index, int letter) {
             int length = longestIn(index);
             int behind = firstEndOf(index) + 1;
             for (int next = 0; next < text.length(); next++) {
@@ -1067,8 +1061,8 @@ public final class FactorBranches {
             return found;
         }
 
-        /** The greatest length from a first one on with which the factor from a start has so many ends; one less than the first if none. */
-        int lengthWith(int least, int start, int first) {
+        /** The greatest length, from a first one on, with which what begins at a start has so many ends; the first less one if none. */
+        int lengthWith(Text text, int least, int start, int first) {
             int last = first - 1;
             int most = text.lettersFrom(start);
             for (int length = first; length <= most; length++) {
@@ -1081,7 +1075,7 @@ public final class FactorBranches {
             return last;
         }
 
-        int longestShared(int words, int least) {
+        int longestShared(Text text, int words, int least) {
             int best = NONE;
             for (int i = 0; i < size; i++) {
                 if (Integer.bitCount(wordSets[i] & words) >= least) {
@@ -1094,7 +1088,7 @@ public final class FactorBranches {
             return best;
         }
 
-        int shortestOnlyIn(int words) {
+        int shortestOnlyIn(Text text, int words) {
             int best = NONE;
             for (int i = 0; i < size; i++) {
                 if (wordSets[i] == words) {
@@ -1139,20 +1133,15 @@ public final class FactorBranches {
     }
 
     /**
-     * The positions of a text in the lexicographic order of what follows there to the end of the
-     * word. All distinct factors in their order are then the beginnings of these sequences, each
-     * without those that it shares with the one before it.
+     * The positions of the text of which they were last made, in the lexicographic order of what
+     * stands from there to the end of the word. All distinct factors in their order are then the
+     * beginnings of these sequences, without those that each shares with the one before it.
      */
     private static final class Beginnings {
-        private final Text text;
         private final int[] starts = new int[MOST_LETTERS];
         private final int[] shared = new int[MOST_LETTERS];
         private int size = 0;
         private int version = NO_VERSION;
-
-        Beginnings(Text text) {
-            this.text = text;
-        }
 
         int startAt(int rank) {
             return rank >= 0 && rank < size ? starts[rank] : 0;
@@ -1163,22 +1152,22 @@ public final class FactorBranches {
             return rank >= 0 && rank < size ? shared[rank] : 0;
         }
 
-        void refresh() {
+        void refresh(Text text) {
             if (version == text.version()) {
                 return;
             }
             version = text.version();
             size = 0;
-            // The shortest rest of a word first: it mostly comes before the others, and few are moved.
+            // From behind: where a word is one letter over and over, no rest of it comes before a shorter one.
             for (int start = text.length() - 1; start >= 0; start--) {
-                insert(start);
+                insert(text, start);
             }
             for (int rank = 0; rank < size; rank++) {
                 shared[rank] = rank == 0 ? 0 : text.sharedFrom(starts[rank - 1], text, starts[rank]);
             }
         }
 
-        private void insert(int start) {
+        private void insert(Text text, int start) {
             if (size >= MOST_LETTERS) {
                 return;
             }
@@ -1191,16 +1180,16 @@ public final class FactorBranches {
             size++;
         }
 
-        int factorsBefore(Text pattern) {
+        int factorsBefore(Text text, Text pattern) {
             int found = 0;
             for (int rank = 0; rank < size; rank++) {
-                found += Math.max(0, lengthBefore(starts[rank], pattern) - shared[rank]);
+                found += Math.max(0, lengthBefore(text, starts[rank], pattern) - shared[rank]);
             }
             return found;
         }
 
         /** The length up to which what begins at a start comes before the pattern. */
-        private int lengthBefore(int start, Text pattern) {
+        private int lengthBefore(Text text, int start, Text pattern) {
             int same = text.sharedFrom(start, pattern, 0);
             if (same == pattern.length()) {
                 return same - 1;

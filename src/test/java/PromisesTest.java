@@ -83,10 +83,11 @@ public final class PromisesTest {
     /** An object with exactly so many versions, at version 1, the word without letters. */
     private static FactorBranches withVersions(int versions) {
         FactorBranches x = with("");
-        while (x.count(1) < versions) {
+        for (int branch = 0; branch < 7; branch++) {
             x.go(1);
             for (int i = 0; i < 60 && x.count(1) < versions; i++) x.append(0);
         }
+        if (x.count(1) != versions) throw new IllegalStateException("could not make " + versions + " versions");
         x.go(1);
         return x;
     }
