@@ -3,11 +3,14 @@ public final class ModelTest {
     private static final int[] ODD = {Integer.MIN_VALUE, -1000, -7, -2, -1, 0, 1, 7, 8, 9, 59, 60, 61, 62, 399, 400, 401,
         1000, Integer.MAX_VALUE - 1, Integer.MAX_VALUE};
     private static final int KINDS = 29;
+    /** The document says nothing about an object after so many calls. */
+    private static final int MOST_CALLS = 512;
 
     private long seed;
     private FactorBranches program;
     private PlainModel model;
     private StringBuilder log;
+    private int used;
     private static int wrong = 0;
     private static long calls = 0;
 
@@ -17,12 +20,12 @@ public final class ModelTest {
 
     public static void main(String[] args) {
         for (int alphabet = 1; alphabet <= 8; alphabet++) {
-            for (int run = 0; run < 45 && wrong == 0; run++) {
+            for (int run = 0; run < 120 && wrong == 0; run++) {
                 new ModelTest(1000L * alphabet + run).mixedRun(alphabet);
             }
         }
-        for (int run = 0; run < 40 && wrong == 0; run++) new ModelTest(50000L + run).treeRun();
-        for (int run = 0; run < 120 && wrong == 0; run++) new ModelTest(90000L + run).fullRun(run % 6);
+        for (int run = 0; run < 60 && wrong == 0; run++) new ModelTest(50000L + run).treeRun();
+        for (int run = 0; run < 180 && wrong == 0; run++) new ModelTest(90000L + run).fullRun(run % 6);
         allShortTexts();
         System.out.println(calls + " calls compared, " + wrong + " wrong");
         if (wrong != 0) System.exit(1);
@@ -38,6 +41,7 @@ public final class ModelTest {
         program = new FactorBranches();
         model = new PlainModel();
         log = new StringBuilder();
+        used = 0;
     }
 
     /** Fills the words in one of several ways, and then asks. */
@@ -45,7 +49,7 @@ public final class ModelTest {
         start();
         int density = 1 + below(40);
         if (below(8) > 0) call(0, 0, 0);
-        for (int call = 0; call < 512 && wrong == 0; call++) {
+        for (int turn = 0; turn < MOST_CALLS && wrong == 0; turn++) {
             int dice = below(100);
             if (dice < density) call(1, below(alphabet), 0);
             else if (dice < density + 1) call(0, 0, 0);
@@ -61,9 +65,9 @@ public final class ModelTest {
     private void treeRun() {
         start();
         call(0, 0, 0);
-        for (int call = 1; call < 512 && wrong == 0; call++) {
+        for (int turn = 1; turn < MOST_CALLS && wrong == 0; turn++) {
             int dice = below(100);
-            if (call % 60 == 59) repeatInNewBranch();
+            if (turn % 60 == 59) repeatInNewBranch();
             else if (dice < 64) call(1, below(2), 0);
             else if (dice < 66) call(0, 0, 0);
             else if (dice < 70) call(3, below(model.count(1) + 1), 0);
@@ -96,7 +100,7 @@ public final class ModelTest {
             call(1, builtLetter(build, i, alphabet, period), 0);
         }
         if (below(2) == 0) call(1, 0, 0);
-        for (int call = 0; call < 380 && wrong == 0; call++) {
+        for (int turn = 0; turn < MOST_CALLS && wrong == 0; turn++) {
             if (below(8) == 0) call(9, 'a' + below(alphabet), 0);
             else if (below(30) == 0) call(4, below(3), 0);
             else ask(alphabet);
@@ -123,6 +127,39 @@ public final class ModelTest {
 
     /** A text of a, b and "/", by its number to the base 3; then every question about it. */
     private void askAll(int number, int length) {
+        build(number, length);
+        for (int what = 0; what < 7; what++) call(28, what, 0);
+        for (int index = 0; index < model.count(4); index++) {
+            for (int what = 0; what < 7; what++) call(21, index, what);
+            for (int letter = 0; letter < 3; letter++) call(23, index, letter);
+        }
+        build(number, length);
+        for (int k = 0; k <= model.factors(1, 0); k++) {
+            call(19, 1, k);
+            call(19, 2, k);
+            for (int what = 0; what < 4; what++) call(14, what, 0);
+            call(20, 0, 0);
+        }
+        for (int set = 0; set < 1 << model.count(2); set++) {
+            build(number, length);
+            call(25, set, 0);
+            comparePads();
+            for (int least = 1; least < 4; least++) {
+                call(24, set, least);
+                comparePads();
+            }
+        }
+        build(number, length);
+        for (int letters = 1; letters < 4; letters++) {
+            call(26, letters, 0);
+            comparePads();
+        }
+        call(27, 0, 0);
+        if (used >= MOST_CALLS) throw new IllegalStateException("too many calls on one object");
+    }
+
+    private void build(int number, int length) {
+        if (used >= MOST_CALLS) throw new IllegalStateException("too many calls on one object");
         start();
         call(0, 0, 0);
         int rest = number;
@@ -132,30 +169,6 @@ public final class ModelTest {
             if (digit == 2) call(0, 0, 0);
             else call(1, digit, 0);
         }
-        for (int what = 0; what < 7; what++) call(28, what, 0);
-        for (int index = 0; index < model.count(4); index++) {
-            for (int what = 0; what < 7; what++) call(21, index, what);
-            for (int letter = 0; letter < 3; letter++) call(23, index, letter);
-        }
-        for (int k = 0; k <= model.factors(1, 0); k++) {
-            call(19, 1, k);
-            call(19, 2, k);
-            for (int what = 0; what < 4; what++) call(14, what, 0);
-            call(20, 0, 0);
-        }
-        for (int set = 0; set < 1 << model.count(2); set++) {
-            call(25, set, 0);
-            comparePads();
-            for (int least = 1; least < 4; least++) {
-                call(24, set, least);
-                comparePads();
-            }
-        }
-        for (int letters = 1; letters < 4; letters++) {
-            call(26, letters, 0);
-            comparePads();
-        }
-        call(27, 0, 0);
     }
 
     private int sign(int alphabet) {
@@ -216,6 +229,8 @@ public final class ModelTest {
     }
 
     private void call(int kind, int a, int b) {
+        if (used == MOST_CALLS) return;
+        used++;
         int want = ofModel(kind, a, b);
         int got = 0;
         String failure = "";

@@ -80,12 +80,15 @@ public final class PromisesTest {
         return part.repeat(times);
     }
 
-    /** An object with exactly so many versions, at version 1, the word without letters. */
+    /** An object with exactly so many versions, at version 1, the word without letters; by few calls, for an object has only 512. */
     private static FactorBranches withVersions(int versions) {
-        FactorBranches x = with("");
-        for (int branch = 0; branch < 7; branch++) {
+        FactorBranches x = saying(with(""), many("a", 60));
+        x.load();
+        for (int made = 62; made < versions; made += 60) {
+            x.go(61);
+            x.spell(Math.min(60, versions - made) - 1);
             x.go(1);
-            for (int i = 0; i < 60 && x.count(1) < versions; i++) x.append(0);
+            x.load();
         }
         if (x.count(1) != versions) throw new IllegalStateException("could not make " + versions + " versions");
         x.go(1);
