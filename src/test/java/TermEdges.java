@@ -206,8 +206,8 @@ final class TermEdges extends Edges {
         answers(MIXED.go(0), 0, "factors", 1, 0);
         answers(MIXED.go(0), 5, "more", 9, 0);
         // Nothing of a longer version is left in the answers about a shorter one.
-        answers(words("aaaa").then("count", 4).go(3), 2, "group", 0, 2);
-        answers(words("aaaa").then("count", 4).go(3), 1, "factors", 2, 0);
+        answers(words("aaaba").then("count", 4).go(3), 2, "group", 0, 2);
+        answers(words("aaaba").then("count", 4).go(3), 0, "factors", 3, 0);
         answers(SIXTY_LETTERS.then("kth", 1, 59).go(31), 30, "group", 0, 2);
         answers(SIXTY_LETTERS.then("kth", 1, 59).go(31), 30, "before");
         Run run = new Run(words("abba/bab").go(4).grow("cab").go(0).begin().say("ba"));
