@@ -639,7 +639,7 @@ public final class FactorBranches {
             return length;
         }
 
-        int version() {
+        int versionTaken() {
             return version;
         }
 
@@ -683,8 +683,8 @@ public final class FactorBranches {
                 return;
             }
             version = wanted;
-            wordCount = history.wordsIn(wanted);
-            length = history.lettersIn(wanted);
+            wordCount = Math.min(history.wordsIn(wanted), MOST_WORDS);
+            length = Math.min(history.lettersIn(wanted), MOST_LETTERS);
             int at = wanted;
             for (int i = 0; i < MOST_VERSIONS && at > 0; i++) {
                 int word = history.wordsIn(at) - 1;
@@ -947,10 +947,10 @@ public final class FactorBranches {
         }
 
         void refresh(Text text) {
-            if (version == text.version()) {
+            if (version == text.versionTaken()) {
                 return;
             }
-            version = text.version();
+            version = text.versionTaken();
             size = 0;
             letterSet = 0;
             for (int end = 0; end < text.length(); end++) {
@@ -1153,10 +1153,10 @@ public final class FactorBranches {
         }
 
         void refresh(Text text) {
-            if (version == text.version()) {
+            if (version == text.versionTaken()) {
                 return;
             }
-            version = text.version();
+            version = text.versionTaken();
             size = 0;
             // From behind: where a word is one letter over and over, no rest of it comes before a shorter one.
             for (int start = text.length() - 1; start >= 0; start--) {

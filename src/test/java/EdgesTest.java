@@ -1,6 +1,4 @@
 import java.io.IOException;
-import java.nio.file.Files;
-import java.nio.file.Path;
 import java.util.ArrayList;
 import java.util.List;
 import java.util.Map;
@@ -8,7 +6,6 @@ import java.util.Set;
 
 /** The boundary cases that the document names, each behind its own words; and that no words of it are left out. */
 public final class EdgesTest {
-    private static final Path DOCUMENT = Path.of("../shared/DOC.md");
     private static final int PROMISES = 29;
 
     public static void main(String[] args) throws IOException {
@@ -16,8 +13,8 @@ public final class EdgesTest {
         VersionEdges.run();
         PadEdges.run();
         FactorEdges.run();
-        if (Files.exists(DOCUMENT)) compareWithDocument(Files.readString(DOCUMENT));
-        else System.out.println("the document is not there to compare the quotations with");
+        String document = Document.text();
+        if (!document.isEmpty()) compareWithDocument(document);
         System.out.println(Edges.checks() + " boundary cases, " + Edges.wrong() + " wrong");
         if (Edges.wrong() != 0) System.exit(1);
     }
@@ -25,13 +22,13 @@ public final class EdgesTest {
     private static void compareWithDocument(String document) {
         int promises = 0;
         for (Map.Entry<String, Set<String>> chapter : Edges.quoted().entrySet()) {
-            String rest = plain(chapterOf(document, chapter.getKey()));
+            String rest = plain(Document.chapter(document, chapter.getKey()));
             if (chapter.getKey().startsWith("Promise ")) promises++;
             // The longest first, for a short quotation may be a part of a longer one.
             List<String> quotations = new ArrayList<>(chapter.getValue());
             quotations.sort((one, other) -> Integer.compare(other.length(), one.length()));
             for (String quotation : quotations) {
-                if (!plain(chapterOf(document, chapter.getKey())).contains(quotation)) {
+                if (!plain(Document.chapter(document, chapter.getKey())).contains(quotation)) {
                     Edges.fault("the document does not say in " + chapter.getKey() + ": " + quotation);
                 }
                 rest = rest.replace(quotation, " ");
@@ -42,14 +39,6 @@ public final class EdgesTest {
             }
         }
         if (promises != PROMISES) Edges.fault("there are tests for " + promises + " promises");
-    }
-
-    private static String chapterOf(String document, String heading) {
-        int start = document.indexOf("## " + heading + "\n");
-        if (start < 0) return "";
-        int text = document.indexOf('\n', start) + 1;
-        int end = document.indexOf("\n## ", text);
-        return document.substring(text, end < 0 ? document.length() : end);
     }
 
     /** Without the heads of the calls, the heads of the paragraphs and what only tells how the interface is laid out. */

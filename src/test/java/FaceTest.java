@@ -10,16 +10,18 @@ import java.util.List;
 import java.util.Map;
 import java.util.TreeMap;
 import java.util.TreeSet;
+import java.util.regex.Matcher;
+import java.util.regex.Pattern;
 
-/** The public face is the document's, and the source keeps to what can be seen of the rules in LANGUAGE.md. */
+/** The public face is the document's, and no call throws. */
 public final class FaceTest {
     private static final String[] METHODS = {"begin 0", "append 1", "load 0", "go 1", "back 1", "version 2", "meet 2",
         "more 2", "letter 2", "say 1", "wipe 0", "pad 1", "fault 1", "occurs 1", "end 1", "matches 1", "parts 0",
         "factors 2", "kth 2", "before 0", "group 2", "spell 1", "step 2", "common 2", "unique 1", "absent 1",
         "minimal 0", "count 1"};
     private static final String[] CONSTANTS = {"NO_SUCH", "BAD_VALUE", "BAD_TEXT", "TOO_MANY", "NOT_POSSIBLE", "NONE"};
-    private static final String[] BARRED_WORDS = {"throw", "throws", "try", "catch", "finally", "synchronized", "assert",
-        "protected", "import", "package", "volatile", "transient", "native", "Object", "Random", "Thread", "Exact"};
+    private static final int HEADINGS = 7;
+    private static final Path SOURCE = Path.of("src/main/java/FactorBranches.java");
 
     private static final List<String> faults = new ArrayList<>();
 
@@ -27,11 +29,11 @@ public final class FaceTest {
         checkClass();
         checkMethods();
         checkFields();
-        checkNestedClasses();
-        checkSource(Files.readString(Path.of("src/main/java/FactorBranches.java")));
+        String document = Document.text();
+        if (!document.isEmpty()) checkDocument(document, Files.readString(SOURCE));
         checkAnyArguments();
         for (String fault : faults) System.out.println(fault);
-        System.out.println(faults.size() + " faults of the face and the rules");
+        System.out.println(faults.size() + " faults of the face");
         if (!faults.isEmpty()) System.exit(1);
     }
 
@@ -74,33 +76,24 @@ public final class FaceTest {
         }
     }
 
-    private static void checkNestedClasses() {
-        Class<?>[] inside = FactorBranches.class.getDeclaredClasses();
-        must(inside.length <= 11, "too many classes");
-        for (Class<?> one : inside) {
-            int modifiers = one.getModifiers();
-            must(Modifier.isStatic(modifiers), "not static: " + one);
-            must(!Modifier.isPublic(modifiers) && !Modifier.isProtected(modifiers), "too open: " + one);
-            must(one.getDeclaredFields().length <= 20, "too many fields: " + one);
-            for (Field field : one.getDeclaredFields()) {
-                must(!Modifier.isStatic(field.getModifiers()) || Modifier.isFinal(field.getModifiers()), "static state: " + field);
-            }
-            for (Method method : one.getDeclaredMethods()) must(method.getParameterCount() <= 7, "too many parameters: " + method);
-        }
-    }
+    /** The face in the document, line by line: the same names of arguments, in the same order, under the same headings. */
+    private static void checkDocument(String document, String source) {
+        List<String> due = new ArrayList<>();
+        Matcher line = Pattern.compile("(?m)^    public .*;$").matcher(Document.chapter(document, "The public face"));
+        while (line.find()) due.add(line.group().replace(");", ") {"));
+        List<String> found = new ArrayList<>();
+        line = Pattern.compile("(?m)^    public .*$").matcher(source);
+        while (line.find()) found.add(line.group());
+        must(found.equals(due), "the face of the source is not that of the document: " + found);
 
-    private static void checkSource(String source) {
-        String code = source.replaceAll("(?s)/\\*.*?\\*/", "").replaceAll("//[^\\n]*", "");
-        for (String word : BARRED_WORDS) {
-            must(!code.matches("(?s).*\\b" + word + "\\b.*"), "the source has the word " + word);
+        Matcher heading = Pattern.compile("(?m)^Ahead of the calls `([a-z]+)`.* the interface says: (---- .*)\\.$").matcher(document);
+        int headings = 0;
+        while (heading.find()) {
+            headings++;
+            String head = "    // " + heading.group(2) + "\n\n    public int " + heading.group(1) + "(";
+            must(source.contains(head), "the source does not say " + heading.group(2) + " ahead of " + heading.group(1));
         }
-        must(!code.contains("->") && !code.contains("::"), "the source has a lambda or a method reference");
-        must(!code.contains("\""), "the source has a text");
-        must(!code.contains("/ ") && !code.contains("%"), "the source divides");
-        for (String line : code.split("\\n")) {
-            boolean isField = line.trim().startsWith("private final ");
-            must(!line.contains("new ") || isField, "an object is made by a call: " + line.trim());
-        }
+        must(headings == HEADINGS, headings + " headings in the document");
     }
 
     /** No call may throw, whatever its arguments, nor on an object that has been used for longer than the document promises. */
