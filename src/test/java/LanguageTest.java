@@ -1,5 +1,6 @@
 import com.sun.source.tree.ClassTree;
 import com.sun.source.tree.CompilationUnitTree;
+import com.sun.source.tree.ForLoopTree;
 import com.sun.source.tree.LineMap;
 import com.sun.source.tree.MethodInvocationTree;
 import com.sun.source.tree.MethodTree;
@@ -7,10 +8,13 @@ import com.sun.source.tree.NewArrayTree;
 import com.sun.source.tree.NewClassTree;
 import com.sun.source.tree.Tree;
 import com.sun.source.tree.VariableTree;
+import com.sun.source.tree.WhileLoopTree;
 import com.sun.source.util.JavacTask;
 import com.sun.source.util.TreePathScanner;
 import com.sun.source.util.Trees;
 import java.io.IOException;
+import java.lang.reflect.Array;
+import java.lang.reflect.Field;
 import java.nio.file.Path;
 import java.util.ArrayList;
 import java.util.EnumSet;
@@ -36,6 +40,8 @@ public final class LanguageTest {
         "History", "Pad", "Text", "Sweep", "Classes", "Beginnings");
     private static final Set<String> LIBRARY = Set.of("java.lang.Math.max", "java.lang.Math.min", "java.lang.Integer.bitCount");
     private static final int MOST_CLASSES = 12, MOST_FIELDS = 20, MOST_PARAMETERS = 7, MOST_LINES = 60, MOST_DEPTH = 8;
+    /** The room of one run takes some 600,000 objects and 7.3 million fields and elements: hundreds of objects of the program. */
+    private static final int MOST_OBJECTS = 200, MOST_ELEMENTS = 10_000;
 
     /** Rules 2, 6, 7 and 10: what the source may not have, or does without. */
     private static final Set<Tree.Kind> BARRED = EnumSet.of(Tree.Kind.LAMBDA_EXPRESSION, Tree.Kind.MEMBER_REFERENCE,
@@ -46,8 +52,10 @@ public final class LanguageTest {
         Tree.Kind.RECORD, Tree.Kind.ANNOTATION, Tree.Kind.PARAMETERIZED_TYPE);
 
     private static final List<String> faults = new ArrayList<>();
+    private static int objects = 0;
+    private static int elements = 0;
 
-    public static void main(String[] args) throws IOException {
+    public static void main(String[] args) throws IOException, IllegalAccessException {
         JavaCompiler compiler = ToolProvider.getSystemJavaCompiler();
         try (StandardJavaFileManager files = compiler.getStandardFileManager(null, null, null)) {
             JavacTask task = (JavacTask) compiler.getTask(null, files, null, List.of("-proc:none"), null,
@@ -58,6 +66,8 @@ public final class LanguageTest {
             reader.scan(unit, null);
             checkCalls(reader);
         }
+        countRoom(new FactorBranches());
+        must(objects <= MOST_OBJECTS && elements <= MOST_ELEMENTS, "rule 12: " + objects + " objects, " + elements + " elements");
         for (String fault : faults) System.out.println(fault);
         System.out.println(faults.size() + " faults against the rules of the language");
         if (!faults.isEmpty()) System.exit(1);
@@ -88,6 +98,23 @@ public final class LanguageTest {
         must(above.size() <= MOST_DEPTH, "rule 11: calls go too deep at " + nameOf(method));
         for (Element next : calls.getOrDefault(method, Set.of())) checkDepth(calls, above, next);
         above.remove(method);
+    }
+
+    /** What an object holds from its beginning on; the calls make nothing more. */
+    private static void countRoom(Object holder) throws IllegalAccessException {
+        objects++;
+        if (holder.getClass().isArray()) {
+            int length = Array.getLength(holder);
+            elements += length;
+            if (holder instanceof int[][] rows) for (int[] row : rows) countRoom(row);
+            return;
+        }
+        for (Field field : holder.getClass().getDeclaredFields()) {
+            if (java.lang.reflect.Modifier.isStatic(field.getModifiers())) continue;
+            elements++;
+            field.setAccessible(true);
+            if (!field.getType().isPrimitive()) countRoom(field.get(holder));
+        }
     }
 
     private static String nameOf(Element method) {
@@ -179,6 +206,21 @@ public final class LanguageTest {
             mustHere(method != null, "rule 12: a constructor calls a method", tree);
             if (own && method != null) calls.get(method).add(called);
             return super.visitMethodInvocation(tree, nothing);
+        }
+
+        /** Rule 9, as far as it can be seen so: a bound and a step towards it. */
+        @Override
+        public Void visitForLoop(ForLoopTree tree, Void nothing) {
+            mustHere(tree.getCondition() != null && !tree.getUpdate().isEmpty(), "rule 9: a loop without a bound", tree);
+            return super.visitForLoop(tree, nothing);
+        }
+
+        @Override
+        public Void visitWhileLoop(WhileLoopTree tree, Void nothing) {
+            String bound = tree.getCondition().toString();
+            String variable = bound.replaceAll("\\(?(\\w+) > 0.*", "$1");
+            mustHere(tree.getStatement().toString().contains(variable + "--;"), "rule 9: a loop that does not count down", tree);
+            return super.visitWhileLoop(tree, nothing);
         }
 
         @Override
